@@ -235,8 +235,8 @@ public final class WeakTableHeap {
     }
 
     public int wouldFree() {
-        markFromRoots();
-        markFromRootsAnd(state.finalizable & ~marking.marked);
+        // A finalizable object that is reachable adds nothing, so it need not be left out.
+        markFromRootsAnd(state.finalizable);
         return Integer.bitCount(state.allocated() & ~marking.marked);
     }
 

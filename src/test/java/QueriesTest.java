@@ -90,6 +90,10 @@ public final class QueriesTest {
                 + "setField(0, 0, 1) = -9; setFinalizable(0, 1) = 1; wouldFree() = 1;"
                 + "noticeCount() = 0; lastRounds() = 0; undoDepth() = 5; collect() = 1;"
                 + "wouldFree() = 2; collect() = 2; wouldFree() = 0");
+        script.run("promise 24: each prediction marks anew",
+                "allocate() = 0; setFinalizable(0, 1) = 1; setRoot(0, 0) = -9; reachableCount() = 1;"
+                + "wouldFree() = 0; setRoot(0, -9) = 0; wouldFree() = 0; setFinalizable(0, 0) = 0;"
+                + "wouldFree() = 1; undo() = 4; undo() = 3; wouldFree() = 0; reachableCount() = 1");
         script.run("promise 24: roots and finalizable objects serve one another in one marking",
                 "allocateTable() = 0; allocate() = 1; allocate() = 2; allocateWeak(2) = 3;"
                 + "put(0, 1, 3) = -9; setRoot(0, 0) = -9; setFinalizable(1, 1) = 1; wouldFree() = 1;"
