@@ -186,6 +186,7 @@ public final class WeakTableHeap {
 
     public int collect() {
         history.push(state);
+        // The document's order: a target is given up before step 3 may bring it back.
         markFromRoots();
         state.roundsOfCollection = marking.lastRound;
         state.emptyWeakReferences(marking.marked, true);
