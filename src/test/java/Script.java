@@ -1,23 +1,48 @@
-import java.lang.reflect.InvocationTargetException;
-import java.lang.reflect.Method;
+import java.util.ArrayList;
+import java.util.List;
 
 /**
  * Runs of calls in the form of the document's examples, "allocate() = 0; setRoot(0, 0) = -9", each
  * run on a new heap. Prints every call whose answer is not the one that is due.
  */
 final class Script {
+    /** What later calls answer is free, so that no run may ask for it. */
+    private static final int CALLS_OF_A_RUN = 512;
+
     private int calls;
     private int wrong;
 
     void run(String title, String... lines) {
+        List<Call> run = Call.allOf(lines);
+        if (run.size() > CALLS_OF_A_RUN) {
+            tell(title + ": the run has " + run.size() + " calls");
+        }
         WeakTableHeap heap = new WeakTableHeap();
-        for (String line : lines) {
-            for (String row : line.split(";")) {
-                if (!row.isBlank()) {
-                    check(heap, title, row.trim());
-                }
+        for (Call call : run) {
+            check(heap, title, call);
+        }
+        checkTraces(title, run);
+    }
+
+    /** Two runs by turns, each on a heap of its own. */
+    void runApart(String title, String firstLine, String secondLine) {
+        List<Call> first = Call.allOf(firstLine);
+        List<Call> second = Call.allOf(secondLine);
+        WeakTableHeap firstHeap = new WeakTableHeap();
+        WeakTableHeap secondHeap = new WeakTableHeap();
+        for (int i = 0; i < Math.max(first.size(), second.size()); i++) {
+            if (i < first.size()) {
+                check(firstHeap, title, first.get(i));
+            }
+            if (i < second.size()) {
+                check(secondHeap, title, second.get(i));
             }
         }
+    }
+
+    void tell(String fault) {
+        wrong++;
+        System.out.println(fault);
     }
 
     void end() {
@@ -27,33 +52,20 @@ final class Script {
         }
     }
 
-    private void check(WeakTableHeap heap, String title, String row) {
-        String[] sides = row.split("\\) = ");
-        String[] call = sides[0].split("\\(");
-        int due = Integer.parseInt(sides[1].trim());
-        String answer = answer(heap, call[0], call.length < 2 ? "" : call[1]);
+    private void check(WeakTableHeap heap, String title, Call call) {
+        String answer = call.answer(heap);
         calls++;
-        if (!answer.equals(Integer.toString(due))) {
-            wrong++;
-            System.out.println(title + ": " + row + " is due, the answer was " + answer);
+        if (!answer.equals(call.due)) {
+            tell(title + ": " + call.row + " is due, the answer was " + answer);
         }
     }
 
-    private static String answer(WeakTableHeap heap, String name, String list) {
-        String[] words = list.isBlank() ? new String[0] : list.split(",");
-        Object[] values = new Object[words.length];
-        Class<?>[] types = new Class<?>[words.length];
-        for (int i = 0; i < words.length; i++) {
-            values[i] = Integer.parseInt(words[i].trim());
-            types[i] = int.class;
-        }
-        try {
-            Method method = WeakTableHeap.class.getMethod(name, types);
-            return method.invoke(heap, values).toString();
-        } catch (InvocationTargetException thrown) {
-            return thrown.getCause().toString();
-        } catch (ReflectiveOperationException missing) {
-            return missing.toString();
+    /** A run must end as it does without the calls that change nothing, the hidden states too. */
+    private void checkTraces(String title, List<Call> run) {
+        List<Call> changing = new ArrayList<>(run);
+        changing.removeIf(Call::changesNothing);
+        if (changing.size() < run.size() && !Trace.of(run).equals(Trace.of(changing))) {
+            tell(title + ": a refused call or a query left a trace");
         }
     }
 }
