@@ -31,7 +31,8 @@ final class CollectionSentences {
                 + "put(0, 0, 1) = 0; collect() = 0; lastRounds() = 1; allocate() = 2;"
                 + "put(0, 1, 2) = -9; collect() = 0; lastRounds() = 2; allocateTable() = 3;"
                 + "allocate() = 4; put(3, 3, 4) = -9; setFinalizable(3, 1) = 1;"
-                + "removeEntry(0, 1) = 2; collect() = 1; lastRounds() = 1; kind(4) = 0");
+                + "removeEntry(0, 0) = 1; wouldFree() = 2; collect() = 2; lastRounds() = 0;"
+                + "kind(4) = 0");
     }
 
     private static void weakStep(Sentences sentences) {
@@ -90,6 +91,12 @@ final class CollectionSentences {
                 + "pollNotice() = 2101; pollNotice() = -2; entryCount(0) = 0; entryCount(1) = 0;"
                 + "entryCount(3) = 2; entryKey(3, 0) = 0; entryKey(3, 1) = 3; get(3, 0) = 0;"
                 + "get(3, 3) = 3");
+        sentences.holds("From every marked table, in increasing order of identifiers, the entries"
+                + " whose key is not marked are removed, in the order of the entries.",
+                Calls.tables(0, 23), Calls.counted("put(22, #, 23) = -9;", 5, 10),
+                "put(23, 22, 23) = -9; put(23, 23, 23) = -9; put(23, 0, 0) = -9; setRoot(0, 23) = -9;"
+                + "collect() = 23; pollNotice() = 2758; pollNotice() = 2736; pollNotice() = -2;"
+                + "entryCount(23) = 1; entryKey(23, 0) = 23");
         sentences.holds("For each of them a notice \"entry\" is issued.",
                 "allocateTable() = 0; allocateTable() = 1; allocate() = 2; setRoot(0, 0) = -9;"
                 + "put(0, 2, 2) = -9; put(0, 1, 1) = -9; put(1, 2, 2) = -9; collect() = 2;"

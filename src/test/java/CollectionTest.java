@@ -41,7 +41,7 @@ public final class CollectionTest {
                 + "pollNotice() = 1003; pollNotice() = -2; collect() = 0; noticeCount() = 0");
         script.run("promise 17: the weak references with the smallest and the largest identifier",
                 "allocate() = 0; allocate() = 1; setRoot(0, 1) = -9; collect() = 1;"
-                + "allocateWeak(1) = 0;" + allocateTables(2, 22) + "allocateWeak(1) = 23;"
+                + "allocateWeak(1) = 0;" + Calls.tables(2, 22) + "allocateWeak(1) = 23;"
                 + "setRoot(0, 0) = 1; setRoot(1, 23) = -9; collect() = 22; target(0) = -9;"
                 + "target(23) = -9; pollNotice() = 1000; pollNotice() = 1023; pollNotice() = -2");
         script.run("promise 17: a weak reference to a marked object stays",
@@ -65,14 +65,6 @@ public final class CollectionTest {
                 + "kind(1) = 2; target(1) = -9; pollNotice() = 3001; pollNotice() = -2; collect() = 1");
     }
 
-    private static String allocateTables(int first, int last) {
-        StringBuilder calls = new StringBuilder();
-        for (int table = first; table <= last; table++) {
-            calls.append("allocateTable() = ").append(table).append(';');
-        }
-        return calls.toString();
-    }
-
     private static void finalizers(Script script) {
         script.run("promise 17: finalizable objects come in increasing order, with what they lead to",
                 "allocate() = 0; allocateTable() = 1; allocate() = 2; allocate() = 3; allocate() = 4;"
@@ -90,7 +82,7 @@ public final class CollectionTest {
                 + "setFinalizable(1, 1) = 2; collect() = 0; pollNotice() = 3000; pollNotice() = 3001;"
                 + "collect() = 2");
         script.run("promise 17: the finalizable table with the largest identifier and its key",
-                allocateTables(0, 23),
+                Calls.tables(0, 23),
                 "setFinalizable(23, 1) = 1; put(23, 0, 1) = -9; put(23, 23, 2) = -9; collect() = 22;"
                 + "kind(2) = 1; kind(23) = 1; pollNotice() = 3023; pollNotice() = 2736;"
                 + "pollNotice() = -2; entryCount(23) = 1; entryKey(23, 0) = 23; collect() = 2");

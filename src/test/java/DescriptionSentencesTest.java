@@ -1,8 +1,10 @@
 import java.io.IOException;
 
-/** The sentences of the document's description: the heap, marking, errors. */
+/**
+ * The sentences of the document's description, each with a test of its own: here those of the heap
+ * and of marking, in classes of their own those of collections, of the state and of errors.
+ */
 public final class DescriptionSentencesTest {
-    /** What the description says of collections, notices, undo and snapshots has its own test. */
     public static void main(String[] args) throws IOException {
         Sentences sentences = new Sentences();
         use(sentences);
@@ -162,6 +164,13 @@ public final class DescriptionSentencesTest {
                 + "put(3, 7, 1) = -9; setRoot(1, 1) = -9; put(3, 1, 2) = -9; put(0, 3, 8) = -9;"
                 + "put(1, 3, 9) = -9; put(2, 3, 7) = -9; markRound(0) = 1; markRound(2) = 1;"
                 + "markRound(9) = 1; markRound(8) = 2; markRound(7) = 2; markRound(4) = -9");
+        sentences.holds("Each later round considers all entries of all tables that were marked before"
+                + " the round began.",
+                Calls.tables(0, 23), "setRoot(0, 23) = -9;",
+                Calls.counted("put(22, #, 11) = -9;", 18, 23), "put(0, 23, 12) = -9;"
+                + "markRound(11) = -9; markRound(12) = -9; put(23, 23, 22) = -9; markRound(22) = 1;"
+                + "markRound(11) = 2; markRound(12) = -9; put(23, 22, 0) = -9; markRound(0) = 2;"
+                + "markRound(12) = 3");
         sentences.holds("It takes every such entry whose key was marked and whose value was not marked"
                 + " before the round began, marks all these values, and then follows fields of marked"
                 + " plain objects as round 0 does.",

@@ -16,15 +16,6 @@ public final class ObjectsTest {
         script.end();
     }
 
-    /** The calls that allocate the plain objects first to last, with their answers. */
-    private static String allocateAll(int first, int last) {
-        StringBuilder calls = new StringBuilder();
-        for (int object = first; object <= last; object++) {
-            calls.append("allocate() = ").append(object).append(';');
-        }
-        return calls.toString();
-    }
-
     private static void newHeap(Script script) {
         script.run("promise 1: a new heap is empty",
                 "objectCount() = 0; reachableCount() = 0; noticeCount() = 0; lastRounds() = 0;"
@@ -38,13 +29,13 @@ public final class ObjectsTest {
                 "allocate() = 0; kind(0) = 0; field(0, 0) = -9; field(0, 1) = -9; field(0, 2) = -9;"
                 + "setFinalizable(0, 0) = -2; objectCount() = 1; undoDepth() = 1");
         script.run("promise 2: the smallest free identifier is taken, and it comes back clean",
-                allocateAll(0, 3),
+                Calls.plainObjects(0, 3),
                 "setField(1, 0, 2) = -9; setField(1, 2, 1) = -9; setRoot(0, 0) = -9;"
                 + "setRoot(1, 3) = -9; collect() = 2; allocate() = 1; allocateTable() = 2;"
                 + "allocate() = 4; field(1, 0) = -9; field(1, 2) = -9; referenceCount(1) = 0;"
                 + "referenceCount(2) = 0");
         script.run("promise 2: at most 24 objects",
-                allocateAll(0, 23),
+                Calls.plainObjects(0, 23),
                 "objectCount() = 24; undoDepth() = 6; undo() = 5; allocate() = 23; allocate() = -3;"
                 + "allocateTable() = -3; allocateWeak(0) = -3; objectCount() = 24; undoDepth() = 6;"
                 + "undo() = 5; objectCount() = 23");
@@ -55,7 +46,7 @@ public final class ObjectsTest {
                 "allocateTable() = 0; put(0, 0, 0) = -9; collect() = 1; allocateTable() = 0;"
                 + "entryCount(0) = 0; get(0, 0) = -9; referenceCount(0) = 0");
         script.run("promise 3: the 24th object may be a table, the 25th not",
-                allocateAll(0, 22), "allocateTable() = 23; allocateTable() = -3; kind(23) = 1");
+                Calls.plainObjects(0, 22), "allocateTable() = 23; allocateTable() = -3; kind(23) = 1");
     }
 
     private static void allocatingWeakReferences(Script script) {
@@ -67,7 +58,7 @@ public final class ObjectsTest {
                 "allocateWeak(0) = -1; allocateWeak(-9) = -1; allocateWeak(-1) = -1;"
                 + "allocateWeak(24) = -1; allocateWeak(" + MIN + ") = -1; allocateWeak(" + MAX
                 + ") = -1; undoDepth() = 0; objectCount() = 0",
-                allocateAll(0, 23), "allocateWeak(24) = -1; allocateWeak(-9) = -1; allocateWeak(5) = -3");
+                Calls.plainObjects(0, 23), "allocateWeak(24) = -1; allocateWeak(-9) = -1; allocateWeak(5) = -3");
         script.run("promise 4: a weak reference does not refer to its own identifier to come",
                 "allocate() = 0; allocateWeak(1) = -1; objectCount() = 1");
     }

@@ -53,7 +53,8 @@ public final class QueriesTest {
                 + "retainedSize(23) = 24; setField(12, 1, -9) = 11; markRound(11) = -9;"
                 + "wouldFree() = 12; collect() = 12");
         script.run("promise 23: as many rounds as there are links in a chain of entries",
-                chainOfEntries(), "setRoot(0, 0) = -9; markRound(23) = 23; markRound(12) = 12;"
+                Calls.tables(0, 23), Calls.entryChain(0, 23),
+                "setRoot(0, 0) = -9; markRound(23) = 23; markRound(12) = 12;"
                 + "reachableCount() = 24; retainedSize(0) = 24; retainedSize(12) = 12;"
                 + "collect() = 0; lastRounds() = 23");
         script.run("promise 23: wrong arguments",
@@ -69,17 +70,6 @@ public final class QueriesTest {
         }
         for (int object = 1; object < 24; object++) {
             calls.append("setField(" + object + ", 1, " + (object - 1) + ") = -9;");
-        }
-        return calls.toString();
-    }
-
-    private static String chainOfEntries() {
-        StringBuilder calls = new StringBuilder();
-        for (int table = 0; table < 24; table++) {
-            calls.append("allocateTable() = ").append(table).append(';');
-        }
-        for (int table = 0; table < 23; table++) {
-            calls.append("put(" + table + ", " + table + ", " + (table + 1) + ") = -9;");
         }
         return calls.toString();
     }

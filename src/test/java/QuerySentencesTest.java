@@ -152,6 +152,10 @@ public final class QuerySentencesTest {
                 Calls.counted("put(#, 23, #) = -9;", 0, 22), "waitingEntries(23) = 0;"
                 + "setRoot(0, 0) = -9; waitingEntries(23) = 23; setRoot(0, 22) = 0;"
                 + "waitingEntries(23) = 1; waitingEntries(22) = 0; waitingEntries(0) = 0");
+        sentences.holds("Returns the number of these entries",
+                Calls.tables(0, 23), "put(23, 22, 0) = -9; put(0, 22, 0) = -9; setRoot(0, 23) = -9;"
+                + "waitingEntries(22) = 1; setRoot(1, 0) = -9; waitingEntries(22) = 2;"
+                + "waitingEntries(0) = 0; waitingEntries(23) = 0");
         sentences.holds("0 if key is reachable",
                 "allocateTable() = 0; allocate() = 1; setRoot(0, 0) = -9; put(0, 0, 0) = -9;"
                 + "waitingEntries(0) = 0; put(0, 1, 1) = -9; waitingEntries(1) = 1;"

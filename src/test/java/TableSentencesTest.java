@@ -101,6 +101,12 @@ public final class TableSentencesTest {
                 + "entryCount(0) = 3; get(0, 5) = 2; get(0, 4) = 3; get(0, 2) = 5; get(0, 3) = -9;"
                 + "removeEntry(0, 5) = 2; removeEntry(0, 2) = 5; removeEntry(0, 4) = 3;"
                 + "entryCount(0) = 0; entryKey(0, 0) = -9; undo() = 5; entryCount(0) = 1");
+        sentences.holds("Removes an entry from a table.",
+                Calls.tables(0, 23), Calls.counted("put(23, #, 1) = -9;", 0, 5),
+                Calls.counted("put(22, #, 2) = -9;", 0, 5), "removeEntry(23, 0) = 1;"
+                + "entryCount(23) = 5; entryKey(23, 0) = 1; get(23, 0) = -9; entryCount(22) = 6;"
+                + "removeEntry(22, 5) = 2; entryCount(22) = 5; entryKey(22, 5) = -9;"
+                + "entryCount(23) = 5; entryKey(23, 4) = 5");
         sentences.holds("a table",
                 HEAP, "put(3, 1, 2) = -9; removeEntry(3, 1) = 2; removeEntry(1, 1) = -1;"
                 + "removeEntry(2, 1) = -1");

@@ -82,16 +82,8 @@ public final class TablesTest {
                 + "entryKey(2, 0) = -1; entryKey(8, 0) = -1; entryKey(-1, 0) = -1;"
                 + "entryKey(24, 0) = -1; entryKey(" + MAX + ", 0) = -1; undoDepth() = 6");
         script.run("promise 16: the last table's last entry",
-                allocateTables(), "put(23, 0, 1) = -9; put(23, 1, 1) = -9; put(23, 2, 1) = -9;"
+                Calls.tables(0, 23), "put(23, 0, 1) = -9; put(23, 1, 1) = -9; put(23, 2, 1) = -9;"
                 + "put(23, 3, 1) = -9; put(23, 4, 1) = -9; put(23, 5, 23) = -9; entryKey(23, 5) = 5;"
                 + "get(23, 5) = 23; entryKey(23, 6) = -9; entryCount(23) = 6; entryCount(22) = 0");
-    }
-
-    private static String allocateTables() {
-        StringBuilder calls = new StringBuilder();
-        for (int table = 0; table < 24; table++) {
-            calls.append("allocateTable() = ").append(table).append(';');
-        }
-        return calls.toString();
     }
 }

@@ -2,7 +2,8 @@ import java.util.List;
 
 /**
  * All that a run of calls can have left behind: what can be asked, the notices and the finalizable
- * objects, in the state itself, in each state that undo brings back and in both snapshots.
+ * objects, in the state itself, in each state that undo brings back and in both snapshots. Looking
+ * takes more calls than the document promises answers for; the class has no limit of its own.
  */
 final class Trace {
     private static final int OBJECTS = 24;
