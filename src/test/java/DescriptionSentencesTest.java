@@ -107,7 +107,8 @@ public final class DescriptionSentencesTest {
                 "allocate() = 0; setField(0, 0, 0) = -9; setField(0, 1, 0) = -9;"
                 + "setField(0, 2, 0) = -9; referenceCount(0) = 3; allocateTable() = 1;"
                 + "put(1, 1, 1) = -9; get(1, 1) = 1; referenceCount(1) = 2; markRound(0) = -9;"
-                + "markRound(1) = -9; setRoot(0, 0) = -9; setRoot(1, 1) = -9; markRound(0) = 0;"
+                + "markRound(1) = -9; allocateWeak(2) = -1; setRoot(0, 0) = -9;"
+                + "setRoot(1, 1) = -9; markRound(0) = 0;"
                 + "markRound(1) = 0; retainedSize(0) = 1; retainedSize(1) = 1; collect() = 0;"
                 + "setRoot(0, -9) = 0; setRoot(1, -9) = 1; collect() = 2; noticeCount() = 0");
         sentences.holds("Besides there are 6 roots, numbered 0 to 5, each of which is empty or refers"
