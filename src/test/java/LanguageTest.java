@@ -8,7 +8,8 @@ import java.util.regex.Pattern;
 
 /**
  * Those rules of LANGUAGE.md that can be read off the text of the class: words that it does not
- * use, what it imports and the library's functions that it calls, and no name of the face twice.
+ * use, what it imports and the library's functions that it calls, no name of the face twice, how
+ * long methods are, how many parameters they take and how many classes there are.
  */
 public final class LanguageTest {
     private static final Path SOURCE = Path.of("src/main/java/WeakTableHeap.java");
@@ -19,6 +20,9 @@ public final class LanguageTest {
     };
     private static final String ALLOWED_LIBRARY =
             "System\\.arraycopy|Arrays\\.fill|Integer\\.bitCount|Math\\.(min|max)";
+    private static final int LINES_OF_A_METHOD = 60;
+    private static final int PARAMETERS = 7;
+    private static final int CLASSES = 12;
 
     private int wrong;
 
@@ -44,6 +48,7 @@ public final class LanguageTest {
             }
         }
         testNames(code);
+        testSizes(code);
         System.out.println(SOURCE + ": " + wrong + " rules broken");
         if (wrong != 0) {
             System.exit(1);
@@ -56,6 +61,25 @@ public final class LanguageTest {
             if (declared.indexOf(name) != declared.lastIndexOf(name)) {
                 tell(name + " is declared more than once");
             }
+        }
+    }
+
+    private void testSizes(String code) {
+        List<String> methods = findAll("(?ms)^( +)\\w[^\n;=]*\\([^()]*\\) \\{$.*?^\\1\\}$", code);
+        if (methods.size() < declaredMethods(code).size()) {
+            tell("only " + methods.size() + " methods were found");
+        }
+        for (String method : methods) {
+            String head = method.substring(0, method.indexOf('{')).trim();
+            if (method.lines().count() > LINES_OF_A_METHOD) {
+                tell(head + " is too long");
+            }
+            if (head.split(",").length > PARAMETERS) {
+                tell(head + " has too many parameters");
+            }
+        }
+        if (findAll("\\b(class|record|enum|interface) \\w+", code).size() > CLASSES) {
+            tell("the file has too many classes");
         }
     }
 
